@@ -494,7 +494,12 @@ public final class NameNets {
         Tree fresh() {
             if (madeAt != net.changes) {
                 madeAt = net.changes;
-                growAll();
+                clear();
+                for (int p = 0; p < net.posts; p++) {
+                    if ((inside >> p & 1) == 0) {
+                        growFrom(p);
+                    }
+                }
                 numberPosts();
                 nameLines();
             }
@@ -509,26 +514,21 @@ public final class NameNets {
             return enter[b] >= enter[a] && enter[b] <= leave[a];
         }
 
-        private void growAll() {
+        private void clear() {
             roots = 0;
             ownLines = 0;
             placed = 0;
             inside = 0;
-            for (int p = 0; p < net.posts; p++) {
-                if ((inside >> p & 1) == 0) {
-                    roots++;
-                    above[p] = NONE;
-                    root[p] = p;
-                    path[p] = 0;
-                    growFrom(p);
-                }
-            }
         }
 
         private void growFrom(int start) {
             int first = placed;
+            roots++;
+            above[start] = NONE;
+            root[start] = start;
+            path[start] = 0;
             place(start);
-            for (int i = first; i < placed; i++) {
+            for (int i = first; i < placed && i < net.posts; i++) {
                 int p = order[i];
                 for (int q = 0; q < net.posts; q++) {
                     if (net.joins(p, q) && (inside >> q & 1) == 0) {
@@ -813,7 +813,7 @@ public final class NameNets {
             int filled = 1;
             queue[0] = hub;
             reached[hub] = 0;
-            for (int i = 0; i < filled; i++) {
+            for (int i = 0; i < filled && i < net.posts; i++) {
                 int p = queue[i];
                 int known = names.distance(p, hub);
                 if (known != NONE && known <= reached[p]) {
@@ -937,18 +937,17 @@ public final class NameNets {
         Parcels fresh() {
             if (madeAt != net.changes) {
                 madeAt = net.changes;
-                findStretch();
+                findStretch(labels.now(FAR));
                 reduce();
             }
             return this;
         }
 
-        private void findStretch() {
+        private void findStretch(Names names) {
             upper = 0;
             lower = 1;
             from = NONE;
             to = NONE;
-            Names names = labels.now(FAR);
             for (int a = 0; a < net.posts; a++) {
                 for (int b = 0; b < net.posts; b++) {
                     int length = length(a, b);
@@ -1000,6 +999,7 @@ public final class NameNets {
                 return true;
             }
             int between = grown.path[a] ^ grown.path[b];
+            // each subset is less than the one before, so the last one, 0, is come to
             for (int subset = set; subset > 0; subset = (subset - 1) & set) {
                 if (Integer.bitCount(subset & between) % 2 == 1 && namesGiveNothing(subset)) {
                     return true;
@@ -1065,7 +1065,7 @@ public final class NameNets {
             int come = 1 << a;
             int filled = 1;
             queue[0] = a;
-            for (int i = 0; i < filled; i++) {
+            for (int i = 0; i < filled && i < net.posts; i++) {
                 int p = queue[i];
                 for (int q = 0; q < net.posts; q++) {
                     if ((open[p] >> q & 1) == 1 && (come >> q & 1) == 0) {
@@ -1298,7 +1298,7 @@ public final class NameNets {
         /** What a word asks for; NONE, if no question begins with it. */
         private int readWord() {
             int start = at;
-            while (isLetter(at)) {
+            while (at < length && isLetter(at)) {
                 at++;
             }
             for (int word = ABOVE; word <= NEXT; word++) {
@@ -1350,7 +1350,7 @@ public final class NameNets {
         private void readNumber(int taken) {
             int start = at;
             int value = 0;
-            while (isFigure(at)) {
+            while (at < length && isFigure(at)) {
                 // from the third figure on it is a fault, so what it would come to is not worked out
                 value = at - start < 2 ? value * 10 + text[at] - '0' : value;
                 at++;

@@ -3,12 +3,14 @@ import java.util.Random;
 /** Runs of calls with a set seed on NameNets and on Plain side by side: each answer must be the same. */
 public final class FuzzTest {
     private static final int RUNS = 600;
-    private static final int CALLS = 512;
+    /** A script may take some fifty calls more: then an object has had its 512. */
+    private static final int CALLS = 460;
 
     private final Random random;
     private final NameNets x = new NameNets();
     private final Plain y = new Plain();
     private final int run;
+    private int calls = 0;
 
     private FuzzTest(int run) {
         this.run = run;
@@ -25,22 +27,21 @@ public final class FuzzTest {
     private void play() {
         same("net", x.net(1 + run % 12), y.net(1 + run % 12));
         int wanted = random.nextInt(31);
-        int calls = 1;
         while (calls < CALLS) {
             if (calls < wanted * 3 / 2) {
                 addLine();
             } else if (random.nextInt(12) == 0) {
                 change();
             } else if (random.nextInt(6) == 0) {
-                calls += script();
+                script();
             } else {
                 look(random.nextInt(24));
             }
-            calls++;
         }
     }
 
     private void same(String call, int got, int want) {
+        calls++;
         Check.due("run " + run + ": " + call, got, want);
     }
 
@@ -163,7 +164,7 @@ public final class FuzzTest {
         same("small()", x.small(), y.small());
     }
 
-    private int script() {
+    private void script() {
         StringBuilder text = new StringBuilder();
         for (int i = random.nextInt(14); i >= 0; i--) {
             question(text);
@@ -171,7 +172,6 @@ public final class FuzzTest {
         if (random.nextInt(3) == 0 && text.length() > 0) {
             spoil(text);
         }
-        int calls = 0;
         for (int i = 0; i < text.length(); i += 8) {
             int n = Math.min(8, text.length() - i);
             long bytes = random.nextInt();
@@ -179,7 +179,6 @@ public final class FuzzTest {
                 bytes = bytes << 8 | text.charAt(i + k);
             }
             same("feed", x.feed(n, bytes), y.feed(n, bytes));
-            calls++;
         }
         same("count(5)", x.count(5), y.count(5));
         same("read() of " + text, x.read(), y.read());
@@ -188,7 +187,6 @@ public final class FuzzTest {
             same("said(" + i + ")", x.said(i), y.said(i));
         }
         same("count(6)", x.count(6), y.count(6));
-        return calls + 20;
     }
 
     private void question(StringBuilder text) {
