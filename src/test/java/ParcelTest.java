@@ -15,6 +15,7 @@ public final class ParcelTest {
         cutOfFour();
         ways();
         waysThatGiveWay();
+        waysThatGiveWayTwice();
         Check.finish();
     }
 
@@ -167,7 +168,16 @@ public final class ParcelTest {
         Check.due("from one between", x.ways(5, 11), 2);
     }
 
-    /** The first way found goes 0-1-4-5 and stands in the way of both others, until it gives up its middle. */
+    /** Here a post where a way was given up must still be open to the ways that it has left. */
+    private static void waysThatGiveWayTwice() {
+        NameNets x = Check.net(11, 8, 2, 10, 5, 4, 1, 10, 9, 2, 0, 5, 2, 8, 3, 4, 0, 5, 4, 7, 3, 7, 2, 9, 5, 8, 0, 9, 4,
+            7, 0, 6, 4, 6, 5, 10, 3, 10, 6, 4, 3);
+        Check.due("ways(0, 10)", x.ways(0, 10), 4);
+        Check.due("ways(10, 0)", x.ways(10, 0), 4);
+        Check.due("four ways: no three lines part them", x.cut(0, 10), NONE);
+    }
+
+    /** The first way found goes 0-1-4-7 and stands in the way of both others, until it gives up its middle. */
     private static void waysThatGiveWay() {
         NameNets x = Check.net(8, 0, 1, 1, 4, 4, 7, 0, 2, 2, 3, 3, 4, 1, 5, 5, 6, 6, 7);
         Check.due("ways(0, 7)", x.ways(0, 7), 2);
