@@ -1,7 +1,14 @@
+import java.io.IOException;
+import java.nio.file.Files;
+import java.nio.file.Path;
+
 /** Counts the answers that are not as due; each test ends by finish(). */
 final class Check {
+    private static final Path DOCUMENT = Path.of("../shared/DOC.md");
     private static int wrong = 0;
     private static int looked = 0;
+    private static String sentence = "";
+    private static String document = null;
 
     private Check() {
     }
@@ -10,7 +17,7 @@ final class Check {
         looked++;
         if (got != want) {
             wrong++;
-            System.out.println(call + " answered " + got + ", due is " + want);
+            System.out.println(sentence + call + " answered " + got + ", due is " + want);
         }
     }
 
@@ -18,11 +25,34 @@ final class Check {
         due(what, holds ? 1 : 0, 1);
     }
 
+    /** The words of the document that are tested from here on; they must stand there letter by letter. */
+    static void sentence(String words) {
+        sentence = "";
+        isTrue("the document says: " + words, document().contains(words));
+        sentence = "[" + words + "] ";
+    }
+
+    private static String document() {
+        if (document == null) {
+            try {
+                document = Files.readString(DOCUMENT);
+            } catch (IOException e) {
+                throw new IllegalStateException("no document at " + DOCUMENT, e);
+            }
+        }
+        return document;
+    }
+
     static void finish() {
         System.out.println(wrong == 0 ? looked + " answers, all as due" : wrong + " of " + looked + " answers are not as due");
         if (wrong != 0) {
             System.exit(1);
         }
+    }
+
+    /** Numbers just beyond both bounds, and those farthest away from them. */
+    static int[] beyond(int low, int high) {
+        return new int[] {low - 1, high + 1, Integer.MIN_VALUE, Integer.MAX_VALUE};
     }
 
     /** A net of n posts with lines told by pairs of ends. */
