@@ -21,14 +21,17 @@ public final class NetEdgeTest {
         strikeMovesUp();
         strikeUnknown();
         countLeastAndMost();
+        countMostLines();
         countOutside();
         treeOfRoots();
         treeByNumbers();
+        rootThatWasBelow();
         toldLeastAndMost();
         toldRefused();
         turnsAndRanksOfLikeOnes();
         linesAsTold();
         linesNames();
+        firstLineIsSpare();
         linesRefused();
         Check.finish();
     }
@@ -313,6 +316,21 @@ public final class NetEdgeTest {
         }
     }
 
+    private static void countMostLines() {
+        Check.sentence("7 the most LINES of a POST.");
+        for (int n = 1; n <= 12; n++) {
+            for (int middle = 0; middle < n; middle++) {
+                NameNets x = Check.net(n, Ends.star(n, middle));
+                Check.due("of " + n + ", the middle is " + middle, x.count(7), n - 1);
+            }
+        }
+        NameNets x = Check.net(3, 0, 1, 0, 2);
+        Check.due("strike(0)", x.strike(0), 1);
+        Check.due("one is left", x.count(7), 1);
+        Check.due("strike(0)", x.strike(0), 0);
+        Check.due("none is left", x.count(7), 0);
+    }
+
     private static void countOutside() {
         Check.sentence("7 the most LINES of a POST. OUTSIDE.");
         NameNets x = new NameNets();
@@ -359,6 +377,23 @@ public final class NetEdgeTest {
         for (int l = 0; l < 10; l++) {
             Check.due("LINE " + l + " is of THE TREE", x.lines(l, 2), ofTree[l]);
         }
+    }
+
+    private static void rootThatWasBelow() {
+        Check.sentence("from POST 0 on, each POST that is not in it yet is a ROOT of its own");
+        NameNets x = Check.net(12, Ends.way(12));
+        for (int p = 11; p > 0; p--) {
+            Check.due("how deep " + p + " lies", x.told(p, 3), p);
+            Check.due("strike(" + (p - 1) + ")", x.strike(p - 1), p - 1);
+            Check.due("above " + p, x.told(p, 0), NONE);
+            Check.due("its ROOT", x.told(p, 1), p);
+            Check.due("it lies no more below another one", x.told(p, 3), 0);
+            Check.due("no LINE between it and its ROOT", x.name(3, p, 0), 0);
+        }
+        Check.due("line(0, 11)", x.line(0, 11), 0);
+        Check.due("how deep 11 lies", x.told(11, 3), 1);
+        x.net(12);
+        Check.due("a new NET", x.told(11, 3), 0);
     }
 
     private static void toldLeastAndMost() {
@@ -448,6 +483,20 @@ public final class NetEdgeTest {
         Check.due("0-1", full.lines(0, 3), 0x1ff800);
         Check.due("0-2", full.lines(1, 3), 0x3fe00800);
         Check.due("0-11", full.lines(10, 3), 1 << 20 | 1 << 29);
+    }
+
+    private static void firstLineIsSpare() {
+        Check.sentence("LINES of THE TREE are those; the others are SPARE.");
+        NameNets x = Check.net(3, 1, 2, 0, 1, 0, 2);
+        int[] ofTree = {0, 1, 1};
+        for (int l = 0; l < 3; l++) {
+            Check.due("LINE " + l + " is of THE TREE", x.lines(l, 2), ofTree[l]);
+            Check.due("all with bit 0 alone", x.lines(l, 3), 1);
+        }
+        Check.due("LINES of THE TREE", x.count(2), 2);
+        Check.due("strike(1)", x.strike(1), 2);
+        Check.due("LINE 0 is of THE TREE now", x.lines(0, 2), 1);
+        Check.due("and no LINE is SPARE", x.lines(0, 3) | x.lines(1, 3), 0);
     }
 
     private static void linesRefused() {

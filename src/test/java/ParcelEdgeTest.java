@@ -286,10 +286,19 @@ public final class ParcelEdgeTest {
         Check.due("eleven, the most", full.ways(0, 1), 11);
         Check.due("eleven, back", full.ways(1, 0), 11);
         Check.due("as many as 11 has", full.ways(0, 11), 3);
+        Check.due("as many as 11 has, from there", full.ways(11, 0), 3);
         Check.due("a POST that several ways share", full.ways(10, 11), 3);
         // two rings that share POST 2: the ways may share it, too
         NameNets eight = Check.net(5, 0, 1, 1, 2, 2, 0, 2, 3, 3, 4, 4, 2);
         Check.due("two by way of one POST", eight.ways(0, 4), 2);
+        // two nets of four POSTS, all joined, with one LINE between them, then with two
+        NameNets bridge = Check.net(8, 0, 1, 0, 2, 0, 3, 1, 2, 1, 3, 2, 3, 4, 5, 4, 6, 4, 7, 5, 6, 5, 7, 6, 7, 3, 4);
+        Check.due("no more than the middle lets by", bridge.ways(0, 7), 1);
+        Check.due("no more than the middle lets by, back", bridge.ways(7, 0), 1);
+        Check.due("line(2, 5)", bridge.line(2, 5), 13);
+        Check.due("the middle lets two by", bridge.ways(0, 7), 2);
+        Check.due("the middle lets two by, back", bridge.ways(7, 0), 2);
+        Check.due("on one side", bridge.ways(0, 1), 3);
     }
 
     private static void cutAndWaysAgree() {

@@ -17,6 +17,7 @@ public final class ScriptEdgeTest {
         twelveQuestions();
         thirteenthQuestion();
         upToSixLines();
+        linesOfOneQuestionAlone();
         noOtherLines();
         oneOrTwoFigures();
         postsThatThereAre();
@@ -227,6 +228,19 @@ public final class ScriptEdgeTest {
         Check.due("the three LINES of 11", last.said(0), 1);
         Check.due("two of them", last.said(1), 0);
         Check.due("the three and others", last.said(2), 1);
+    }
+
+    private static void linesOfOneQuestionAlone() {
+        Check.sentence("(behind both POSTS up to 6 LINES that FAIL)");
+        NameNets x = Check.net(7, Ends.pairs(7, 21));
+        reads(x, "parted 0 6 0 1 2 3 4 5;parted 0 6;parted 0 6 5;", 3);
+        int[] due = {1, 0, 0};
+        for (int i = 0; i < 3; i++) {
+            Check.due("said(" + i + ")", x.said(i), due[i]);
+        }
+        Check.due("not those of an earlier text", reads(x, "parted 0 6;", 1).said(0), 0);
+        fails(x, "parted 0 6 0 1 2 3 4 5 6;", 1, 23);
+        Check.due("nor those of one with a FAULT", reads(x, "parted 0 6;", 1).said(0), 0);
     }
 
     private static void noOtherLines() {
