@@ -24,6 +24,7 @@ public final class ParcelEdgeTest {
         cutLeastLineFirst();
         cutOfLastLines();
         waysLeastAndMost();
+        waysGivenUpAgain();
         cutAndWaysAgree();
         cutAndWaysRefused();
         Check.finish();
@@ -299,6 +300,23 @@ public final class ParcelEdgeTest {
         Check.due("the middle lets two by", bridge.ways(0, 7), 2);
         Check.due("the middle lets two by, back", bridge.ways(7, 0), 2);
         Check.due("on one side", bridge.ways(0, 1), 3);
+    }
+
+    /** A LINE that one way left to another, and that this one left again, is free for a third in both directions. */
+    private static void waysGivenUpAgain() {
+        Check.sentence("how many ways there are, no LINE on two of them, from a to b.");
+        NameNets x = Check.net(10, 3, 6, 2, 6, 9, 8, 7, 2, 4, 7, 6, 8, 1, 7, 4, 5, 1, 5, 0, 4, 5, 3, 2, 5, 0, 1, 9, 2, 9, 3);
+        // 9-3-5-1, 9-2-7-1 and 9-8-6-2-5-4-0-1 share no LINE
+        Check.due("as many LINES as 9 has", x.told(9, 2), 3);
+        Check.due("as many LINES as 1 has", x.told(1, 2), 3);
+        Check.due("ways(9, 1)", x.ways(9, 1), 3);
+        Check.due("ways(1, 9)", x.ways(1, 9), 3);
+        Check.due("no two LINES part them", Integer.bitCount(x.cut(9, 1)), 3);
+        NameNets y = Check.net(11, 9, 6, 6, 8, 7, 10, 0, 9, 2, 7, 1, 9, 0, 7, 7, 3, 4, 9, 2, 3, 0, 5, 1, 4, 10, 4, 3, 4, 0, 8,
+            1, 5, 5, 3);
+        Check.due("ways(3, 9)", y.ways(3, 9), 4);
+        Check.due("ways(9, 3)", y.ways(9, 3), 4);
+        Check.due("no three LINES part them", y.cut(3, 9), NONE);
     }
 
     private static void cutAndWaysAgree() {
